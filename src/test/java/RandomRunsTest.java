@@ -1,0 +1,248 @@
+import java.util.Random;
+
+/** Runs of calls drawn from fixed seeds, each answer, STATUS and OUT held against the model's. */
+public final class RandomRunsTest {
+    private static int wrong = 0;
+    private static final int[] EDGES = {
+        Integer.MIN_VALUE, -1001, -1000, -1, 0, 1, 2, 3, 6, 7, 8, 9, 20, 21, 23, 24, 99, 100, 101,
+        999, 1000, 1001, 9999, 10000, 10001, 99999, 100000, 100001, Integer.MAX_VALUE
+    };
+
+    private final Random random;
+    private final LightRoom room = new LightRoom();
+    private final Model model = new Model();
+    private final StringBuilder calls = new StringBuilder();
+    private final int reach;
+    private int made;
+
+    private RandomRunsTest(long seed, int reach) {
+        random = new Random(seed);
+        this.reach = reach;
+    }
+
+    public static void main(String[] args) {
+        for (int seed = 0; seed < 1500; seed++) {
+            new RandomRunsTest(seed, 2 + seed % 3).walls(120);
+        }
+        for (int seed = 0; seed < 500; seed++) {
+            new RandomRunsTest(seed, seed % 2 == 0 ? 30 : 1000).walls(120);
+        }
+        for (int seed = 0; seed < 700; seed++) {
+            new RandomRunsTest(seed, 1000).lights(60);
+        }
+        for (int seed = 0; seed < 300; seed++) {
+            new RandomRunsTest(seed, 3).anything(200);
+        }
+        System.out.println(wrong == 0 ? "all random runs agree" : wrong + " answers differ");
+        if (wrong != 0) {
+            System.exit(1);
+        }
+    }
+
+    private int below(int bound) {
+        return random.nextInt(bound);
+    }
+
+    private int from(int least, int most) {
+        return least + below(most - least + 1);
+    }
+
+    private int edge() {
+        return EDGES[below(EDGES.length)];
+    }
+
+    private int mostly(int usual) {
+        return below(40) == 0 ? edge() : usual;
+    }
+
+    private void walls(int many) {
+        for (int i = 0; i < many; i++) {
+            int which = below(10);
+            call(which < 3 && i < 30 ? 0 : which < 6 && i < 60 ? 1 : 4 + below(5));
+        }
+    }
+
+    private void lights(int many) {
+        int patches = from(1, 8);
+        for (int p = 0; p < patches; p++) {
+            same("corner", room.corner(p, 0), model.corner(p, 0));
+            same("corner", room.corner(p, 5), model.corner(p, 5));
+            int kind = below(3);
+            same("patch " + kind, room.patch(2 * p, 2 * p + 1, kind), model.patch(2 * p, 2 * p + 1, kind));
+        }
+        made = patches;
+        if (below(3) > 0) {
+            int parts = below(2) == 0 ? from(1, 1000) : 1000;
+            same("parts " + parts, room.parts(parts), model.parts(parts));
+        }
+        for (int i = 0; i < 3 * patches; i++) {
+            call(2 + below(2));
+            call(10);
+            call(10);
+        }
+        for (int i = 0; i < many; i++) {
+            int which = below(20);
+            call(which < 3 ? 2 : which < 5 ? 3 : which < 8 ? 10 : 11 + below(8));
+        }
+    }
+
+    private void anything(int many) {
+        for (int i = 0; i < many; i++) {
+            call(i < 20 ? below(2) : below(19));
+        }
+    }
+
+    private int somePatch() {
+        return mostly(below(9) == 0 ? below(10) : below(Math.max(1, made)));
+    }
+
+    private void call(int which) {
+        switch (which) {
+            case 0: {
+                int x = mostly(from(-reach, reach));
+                int y = mostly(from(-reach, reach));
+                same("corner " + x + " " + y, room.corner(x, y), model.corner(x, y));
+                break;
+            }
+            case 1: {
+                int a = mostly(below(13));
+                int b = mostly(below(13));
+                int kind = mostly(below(3));
+                int number = model.patch(a, b, kind);
+                made = Math.max(made, number + 1);
+                same("patch " + a + " " + b + " " + kind, room.patch(a, b, kind), number);
+                break;
+            }
+            case 2: {
+                int p = somePatch();
+                int d = mostly(below(2) == 0 ? from(1, 100) : from(90, 100));
+                int n = mostly(below(3) == 0 ? d - 1 : d > 0 ? below(d) : 0);
+                same("on " + p + " " + n + " " + d, room.on(p, n, d), model.on(p, n, d));
+                break;
+            }
+            case 3: {
+                int p = somePatch();
+                int light = mostly(below(4) == 0 ? 10000 : below(10001));
+                same("own " + p + " " + light, room.own(p, light), model.own(p, light));
+                break;
+            }
+            case 4: {
+                int p = somePatch();
+                int what = mostly(below(9));
+                same("told " + p + " " + what, room.told(p, what), model.told(p, what));
+                break;
+            }
+            case 5: {
+                int a = somePatch();
+                int b = somePatch();
+                same("sight " + a + " " + b, room.sight(a, b), model.sight(a, b));
+                break;
+            }
+            case 6: {
+                int p = somePatch();
+                int k = mostly(below(21));
+                boolean up = random.nextBoolean();
+                same("length " + p + " " + k + " " + up, room.length(p, k, up), model.length(p, k, up));
+                break;
+            }
+            case 7: {
+                int a = somePatch();
+                int b = somePatch();
+                int k = mostly(below(21));
+                boolean high = random.nextBoolean();
+                same("share " + a + " " + b + " " + k + " " + high, room.share(a, b, k, high), model.share(a, b, k, high));
+                break;
+            }
+            case 8: {
+                int a = somePatch();
+                int b = somePatch();
+                same("crossed " + a + " " + b, room.crossed(a, b), model.crossed(a, b));
+                break;
+            }
+            default:
+                callLight(which);
+        }
+    }
+
+    private void callLight(int which) {
+        int p = somePatch();
+        switch (which) {
+            case 9: {
+                int many = mostly(from(1, 1000));
+                same("parts " + many, room.parts(many), model.parts(many));
+                break;
+            }
+            case 10: {
+                int j = somePatch();
+                int part = mostly(below(3) == 0 ? below(1001) : below(300));
+                same("table " + p + " " + j + " " + part, room.table(p, j, part), model.table(p, j, part));
+                break;
+            }
+            case 11:
+                same("light " + p, room.light(p), model.light(p));
+                break;
+            case 12: {
+                int t = mostly(below(7));
+                same("bounce " + p + " " + t, room.bounce(p, t), model.bounce(p, t));
+                break;
+            }
+            case 13: {
+                int j = somePatch();
+                same("pull " + p + " " + j, room.pull(p, j), model.pull(p, j));
+                break;
+            }
+            case 14:
+                same("enough " + p, room.enough(p), model.enough(p));
+                break;
+            case 15: {
+                int light = mostly(below(2) == 0 ? below(300) : below(20000));
+                same("want " + p + " " + light, room.want(p, light), model.want(p, light));
+                break;
+            }
+            case 16: {
+                int price = mostly(below(2) == 0 ? below(3) : below(1001));
+                int most = mostly(below(3) == 0 ? 10000 : below(10001));
+                same("price " + p + " " + price + " " + most, room.price(p, price, most), model.price(p, price, most));
+                break;
+            }
+            case 17:
+                same("least", room.least(), model.least());
+                break;
+            default:
+                same("power " + p, room.power(p), model.power(p));
+        }
+    }
+
+    private void same(String call, boolean got, boolean due) {
+        same(call, got ? 1 : 0, due ? 1 : 0);
+    }
+
+    private void same(String call, long got, long due) {
+        calls.append(call).append("; ");
+        String gotOut = text(room);
+        String dueOut = text(model);
+        if (got != due || room.status() != model.status() || !gotOut.equals(dueOut)) {
+            wrong++;
+            if (wrong < 5) {
+                System.out.println(call + " answered " + got + " (" + room.status() + ") " + gotOut
+                    + ", due is " + due + " (" + model.status() + ") " + dueOut + " after " + calls);
+            }
+        }
+    }
+
+    private static String text(LightRoom room) {
+        StringBuilder text = new StringBuilder();
+        for (int k = 0; room.out(k) != -1; k++) {
+            text.append((char) room.out(k));
+        }
+        return text.toString();
+    }
+
+    private static String text(Model model) {
+        StringBuilder text = new StringBuilder();
+        for (int k = 0; model.out(k) != -1; k++) {
+            text.append((char) model.out(k));
+        }
+        return text.toString();
+    }
+}
