@@ -33,6 +33,12 @@ public final class RandomRunsTest {
         for (int seed = 0; seed < 300; seed++) {
             new RandomRunsTest(seed, 3).anything(200);
         }
+        for (int seed = 0; seed < 12; seed++) {
+            new RandomRunsTest(seed, 1000).bright(seed % 2 == 0);
+        }
+        for (int seed = 0; seed < 600; seed++) {
+            new RandomRunsTest(seed, 1000).round();
+        }
         System.out.println(wrong == 0 ? "all random runs agree" : wrong + " answers differ");
         if (wrong != 0) {
             System.exit(1);
@@ -83,6 +89,98 @@ public final class RandomRunsTest {
         for (int i = 0; i < many; i++) {
             int which = below(20);
             call(which < 3 ? 2 : which < 5 ? 3 : which < 8 ? 10 : 11 + below(8));
+        }
+    }
+
+    /** Eight patches that give on nearly all that comes, so that all numbers get long. */
+    private void bright(boolean longest) {
+        int[] kinds = {1, 0, 1, 2, 0, 1, 0, 2};
+        int[] bottoms = {100, 99, 97, 91, 89, 83, 79, 73};
+        layPatches(kinds);
+        int parts = longest ? 1000 - below(4) : from(900, 1000);
+        same("parts " + parts, room.parts(parts), model.parts(parts));
+        for (int p = 0; p < 8; p++) {
+            int d = bottoms[p];
+            int n = kinds[p] == 2 ? 0 : d - 1 - below(longest ? 1 : 5);
+            same("on " + p + " " + n + " " + d, room.on(p, n, d), model.on(p, n, d));
+            int own = kinds[p] == 0 ? 0 : from(9000, 10000);
+            same("own " + p + " " + own, room.own(p, own), model.own(p, own));
+            fillRow(p, parts);
+            wantNear(p);
+        }
+        for (int i = 0; i < 25; i++) {
+            call(11 + below(4));
+            leastForWants();
+        }
+    }
+
+    private void leastForWants() {
+        int p = below(8);
+        int light = below(3) == 0 ? below(100001) : below(3000);
+        same("want " + p + " " + light, room.want(p, light), model.want(p, light));
+        int lamp = below(6);
+        int price = below(4) == 0 ? 1000 : below(1001);
+        same("price " + lamp + " " + price, room.price(lamp, price, 10000), model.price(lamp, price, 10000));
+        same("least", room.least(), model.least());
+        same("power " + lamp, room.power(lamp), model.power(lamp));
+    }
+
+    private void fillRow(int p, int parts) {
+        int left = parts;
+        for (int j = 0; j < 8; j++) {
+            int part = j == 7 ? left : below(1 + left * 2 / (8 - j));
+            part = Math.min(part, left);
+            same("table " + p + " " + j + " " + part, room.table(p, j, part), model.table(p, j, part));
+            left -= part;
+        }
+    }
+
+    private void layPatches(int[] kinds) {
+        for (int p = 0; p < kinds.length; p++) {
+            same("corner", room.corner(p, 0), model.corner(p, 0));
+            same("corner", room.corner(p, 5), model.corner(p, 5));
+            same("patch " + kinds[p], room.patch(2 * p, 2 * p + 1, kinds[p]), model.patch(2 * p, 2 * p + 1, kinds[p]));
+        }
+        made = kinds.length;
+    }
+
+    /** WANTED at the light of all bounces or of some, or 1 beside it. */
+    private void wantNear(int p) {
+        int t = below(9);
+        same("light " + p, t > 6 ? room.light(p) : room.bounce(p, t), t > 6 ? model.light(p) : model.bounce(p, t));
+        String[] fraction = text(model).split("/");
+        int near = new java.math.BigInteger(fraction[0]).divide(new java.math.BigInteger(fraction[1])).intValueExact();
+        int light = near + from(-1, 1);
+        same("want " + p + " " + light, room.want(p, light), model.want(p, light));
+        same("enough " + p, room.enough(p), model.enough(p));
+    }
+
+    /** Halves and quarters between few patches, so that lights are often whole. */
+    private void round() {
+        int patches = from(1, 4);
+        int[] kinds = new int[patches];
+        for (int p = 0; p < patches; p++) {
+            kinds[p] = below(4) == 0 ? 0 : 1 + below(2);
+            kinds[p] = p == 3 && kinds[p] == 1 ? 2 : kinds[p];
+        }
+        layPatches(kinds);
+        int parts = 1 << below(3);
+        same("parts " + parts, room.parts(parts), model.parts(parts));
+        for (int i = 0; i < 30; i++) {
+            int p = below(patches);
+            int j = below(patches);
+            int d = 1 + below(3);
+            int part = below(parts + 1);
+            int own = 12 * below(20);
+            same("on " + p + " " + (d - 1) + " " + d, room.on(p, d - 1, d), model.on(p, d - 1, d));
+            same("own " + p + " " + own, room.own(p, own), model.own(p, own));
+            same("table " + p + " " + j + " " + part, room.table(p, j, part), model.table(p, j, part));
+            wantNear(j);
+            int price = below(3);
+            int most = 60 * below(5);
+            same("price " + p + " " + price + " " + most, room.price(p, price, most), model.price(p, price, most));
+            same("least", room.least(), model.least());
+            same("power " + j, room.power(j), model.power(j));
         }
     }
 
