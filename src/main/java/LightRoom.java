@@ -720,12 +720,35 @@ public final class LightRoom {
         /** Times a number that isn't below 0. */
         void times(int factor) {
             long carry = 0;
-            for (int i = 0; i < limbs.length && (i < size || carry > 0); i++) {
-                long product = (long) limbAt(i) * factor + carry;
+            for (int i = 0; i < size; i++) {
+                long product = (long) limbs[i] * factor + carry;
                 limbs[i] = (int) (product % LIMB);
                 carry = product / LIMB;
+            }
+            extend(carry);
+            trim();
+        }
+
+        /** Puts what is left of a row above the highest limb. */
+        private void extend(long carry) {
+            long rest = carry;
+            for (int i = size; i < limbs.length && rest > 0; i++) {
+                limbs[i] = (int) (rest % LIMB);
+                rest /= LIMB;
+                size = i + 1;
+            }
+        }
+
+        /** More by a number so many times; none of the three is below 0. */
+        void plusTimes(Big other, int factor) {
+            long carry = 0;
+            for (int i = 0; i < limbs.length && (i < other.size || carry > 0 && i < size); i++) {
+                long sum = (long) limbAt(i) + (long) other.limbAt(i) * factor + carry;
+                limbs[i] = (int) (sum % LIMB);
+                carry = sum / LIMB;
                 size = Math.max(size, i + 1);
             }
+            extend(carry);
             trim();
         }
 
@@ -744,27 +767,25 @@ public final class LightRoom {
 
         private void addRow(long factor, Big b, int shift) {
             long carry = 0;
-            for (int i = 0; shift + i < size && (i < b.size || carry > 0); i++) {
-                long sum = limbs[shift + i] + factor * b.limbAt(i) + carry;
+            for (int i = 0; i < b.size && shift + i < size; i++) {
+                long sum = limbs[shift + i] + factor * b.limbs[i] + carry;
                 limbs[shift + i] = (int) (sum % LIMB);
                 carry = sum / LIMB;
             }
-        }
-
-        void plus(Big other) {
-            join(other, other.below);
-        }
-
-        void minus(Big other) {
-            join(other, !other.below);
+            // No row before this one has come so far up.
+            if (shift + b.size < size) {
+                limbs[shift + b.size] = (int) carry;
+            }
         }
 
         void plusProduct(Big a, Big b, Big scratch) {
             scratch.setProduct(a, b);
-            join(scratch, scratch.below);
+            add(scratch, false);
         }
 
-        private void join(Big other, boolean otherBelow) {
+        /** Adds the other number, or takes it away, if it is to be turned. */
+        void add(Big other, boolean turned) {
+            boolean otherBelow = other.below != turned;
             if (below == otherBelow || size == 0) {
                 raise(other);
                 below = otherBelow;
@@ -778,20 +799,24 @@ public final class LightRoom {
         }
 
         private void raise(Big other) {
+            for (int i = size; i < limbs.length && i < other.size; i++) {
+                limbs[i] = 0;
+                size = i + 1;
+            }
             int carry = 0;
-            for (int i = 0; i < limbs.length && (i < other.size || carry > 0); i++) {
-                int sum = limbAt(i) + other.limbAt(i) + carry;
+            for (int i = 0; i < size && (i < other.size || carry > 0); i++) {
+                int sum = limbs[i] + (i < other.size ? other.limbs[i] : 0) + carry;
                 carry = sum >= LIMB ? 1 : 0;
                 limbs[i] = sum - carry * LIMB;
-                size = Math.max(size, i + 1);
             }
+            extend(carry);
         }
 
         /** The other one is not greater. */
         private void lower(Big other) {
             int borrow = 0;
             for (int i = 0; i < size && (i < other.size || borrow > 0); i++) {
-                int rest = limbs[i] - other.limbAt(i) - borrow;
+                int rest = limbs[i] - (i < other.size ? other.limbs[i] : 0) - borrow;
                 borrow = rest < 0 ? 1 : 0;
                 limbs[i] = rest + borrow * LIMB;
             }
@@ -802,7 +827,7 @@ public final class LightRoom {
             int borrow = 0;
             int newSize = Math.min(other.size, limbs.length);
             for (int i = 0; i < newSize; i++) {
-                int rest = other.limbs[i] - limbAt(i) - borrow;
+                int rest = other.limbs[i] - (i < size ? limbs[i] : 0) - borrow;
                 borrow = rest < 0 ? 1 : 0;
                 limbs[i] = rest + borrow * LIMB;
             }
@@ -1014,7 +1039,7 @@ public final class LightRoom {
                         Big cell = pulls[i * PATCHES + j];
                         product.setProduct(pivot, cell);
                         scratch.setProduct(pulls[i * PATCHES + k], pulls[k * PATCHES + j]);
-                        product.minus(scratch);
+                        product.add(scratch, true);
                         product.divide(whole, cell);
                     }
                 }
@@ -1041,9 +1066,7 @@ public final class LightRoom {
             sum.set(0);
             for (int j = 0; j < walls.count; j++) {
                 if (!withoutLamps || walls.patches[j].kind != LAMP) {
-                    product.copy(pulls[patch * PATCHES + j]);
-                    product.times(walls.patches[j].own);
-                    sum.plus(product);
+                    sum.plusTimes(pulls[patch * PATCHES + j], walls.patches[j].own);
                 }
             }
         }
@@ -1053,7 +1076,7 @@ public final class LightRoom {
             gather(patch, walls, false);
             product.copy(whole);
             product.times(walls.patches[patch].wanted);
-            sum.minus(product);
+            sum.add(product, true);
             return sum.sign();
         }
     }
@@ -1113,15 +1136,11 @@ public final class LightRoom {
             Patch patch = walls.patches[i];
             sum.set(0);
             for (int j = 0; j < walls.count; j++) {
-                product.copy(now[j]);
-                product.times(table.rows[i][j]);
-                sum.plus(product);
+                sum.plusTimes(now[j], table.rows[i][j]);
             }
             weight.set(patch.bottom > 0 ? multiple / patch.bottom * patch.top : 0);
             next[i].setProduct(sum, weight);
-            product.copy(scale);
-            product.times(patch.own);
-            next[i].plus(product);
+            next[i].plusTimes(scale, patch.own);
         }
 
         boolean reaches(int patch, Walls walls) {
@@ -1186,7 +1205,18 @@ public final class LightRoom {
             nameLamps(walls);
             layPatchRows(walls, glow);
             layBounds(walls);
-            found = search();
+            int broken = NONE;
+            int leaving = NONE;
+            for (int step = 0; step < MOST_STEPS; step++) {
+                place();
+                broken = firstBroken();
+                leaving = broken == NONE ? NONE : placeToLeave(broken);
+                if (leaving == NONE) {
+                    break;
+                }
+                held[leaving] = broken;
+            }
+            found = broken == NONE;
             addPrices();
             known = true;
         }
@@ -1227,7 +1257,7 @@ public final class LightRoom {
                 glow.gather(row, walls, true);
                 needs[row].copy(glow.whole);
                 needs[row].times(walls.patches[row].wanted);
-                needs[row].minus(glow.sum);
+                needs[row].add(glow.sum, true);
             }
         }
 
@@ -1240,22 +1270,6 @@ public final class LightRoom {
                 needs[UPPER_ROWS + axis].set(-most);
                 held[axis] = LOWER_ROWS + axis;
             }
-        }
-
-        private boolean search() {
-            for (int step = 0; step < MOST_STEPS; step++) {
-                place();
-                int broken = firstBroken();
-                if (broken == NONE) {
-                    return true;
-                }
-                int leaving = placeToLeave(broken);
-                if (leaving == NONE) {
-                    return false;
-                }
-                held[leaving] = broken;
-            }
-            return false;
         }
 
         private void place() {
@@ -1290,7 +1304,7 @@ public final class LightRoom {
             Big way = ways[axis * LAMPS + i];
             way.setProduct(slopes[row + column], slopes[nextRow + nextColumn]);
             product.setProduct(slopes[row + nextColumn], slopes[nextRow + column]);
-            way.minus(product);
+            way.add(product, true);
         }
 
         private int firstBroken() {
@@ -1300,7 +1314,7 @@ public final class LightRoom {
                     sum.plusProduct(slopes[row * LAMPS + axis], owns[axis], product);
                 }
                 product.setProduct(needs[row], whole);
-                sum.minus(product);
+                sum.add(product, true);
                 if (sum.below) {
                     return row;
                 }
@@ -1318,7 +1332,7 @@ public final class LightRoom {
                     leans[i].plusProduct(slopes[broken * LAMPS + axis], way, product);
                     product.copy(way);
                     product.times(prices[axis]);
-                    costs[i].plus(product);
+                    costs[i].add(product, false);
                 }
             }
             int best = NONE;
@@ -1342,7 +1356,7 @@ public final class LightRoom {
         private int compareBy(Big ofI, Big ofJ, int i, int j) {
             sum.setProduct(ofI, leans[j]);
             product.setProduct(ofJ, leans[i]);
-            sum.minus(product);
+            sum.add(product, true);
             return sum.sign();
         }
 
@@ -1351,7 +1365,7 @@ public final class LightRoom {
             for (int axis = 0; axis < LAMPS; axis++) {
                 product.copy(owns[axis]);
                 product.times(prices[axis]);
-                total.plus(product);
+                total.add(product, false);
             }
         }
     }
