@@ -1045,11 +1045,12 @@ public final class LightRoom {
                 }
             }
             for (int i = 0; i < count; i++) {
-                pulls[i * PATCHES + k].negate();
+                if (i != k) {
+                    pulls[i * PATCHES + k].negate();
+                }
             }
             scratch.copy(whole);
             whole.copy(pivot);
-            whole.below = false;
             pivot.copy(scratch);
         }
 
@@ -1272,6 +1273,7 @@ public final class LightRoom {
             }
         }
 
+        /** A row only comes in for one that leans to it, so whole is never 0 or below. */
         private void place() {
             for (int i = 0; i < LAMPS; i++) {
                 for (int axis = 0; axis < LAMPS; axis++) {
@@ -1281,12 +1283,6 @@ public final class LightRoom {
             whole.set(0);
             for (int axis = 0; axis < LAMPS; axis++) {
                 whole.plusProduct(slopes[held[0] * LAMPS + axis], ways[axis * LAMPS], product);
-            }
-            if (whole.below) {
-                whole.negate();
-                for (int i = 0; i < ways.length; i++) {
-                    ways[i].negate();
-                }
             }
             for (int axis = 0; axis < LAMPS; axis++) {
                 owns[axis].set(0);
