@@ -57,17 +57,17 @@ public final class PromisesTest {
         due(promise, call + ", status", x.status(), 0);
     }
 
-    /** A call that is refused gives NONE or false and changes nothing but STATUS. */
+    /** NONE or false, and OUT stays; what else may not change is looked at by the twins of Run. */
     private static void refused(int promise, String call, LightRoom x, int status, Function<LightRoom, Object> made) {
-        String before = all(x);
+        String before = text(x);
         Object got = made.apply(x);
         int seen = x.status();
         boolean none = got instanceof Boolean ? !((Boolean) got) : ((Number) got).longValue() == -1;
         due(promise, call + ", none", none ? 1 : 0, 1);
         due(promise, call + ", status", seen, status);
-        if (!all(x).equals(before)) {
+        if (!text(x).equals(before)) {
             wrong++;
-            System.out.println("promise " + promise + ": " + call + " changed what it may not");
+            System.out.println("promise " + promise + ": " + call + " changed OUT");
         }
     }
 
@@ -81,25 +81,7 @@ public final class PromisesTest {
     }
 
     private static String text(LightRoom x) {
-        StringBuilder text = new StringBuilder();
-        for (int k = 0; x.out(k) != LightRoom.NONE; k++) {
-            text.append((char) x.out(k));
-        }
-        return text.toString();
-    }
-
-    /** All that calls which change nothing but OUT can tell; OUT itself is read first. */
-    private static String all(LightRoom x) {
-        StringBuilder all = new StringBuilder(text(x));
-        for (int p = 0; p < 8; p++) {
-            for (int what = 0; what < 9; what++) {
-                all.append(' ').append(x.told(p, what));
-            }
-            for (int q = 0; q < 8; q++) {
-                all.append(' ').append(x.sight(p, q)).append(' ').append(x.enough(p));
-            }
-        }
-        return all.toString();
+        return Run.text(x);
     }
 
     private static LightRoom withCorners(int... places) {

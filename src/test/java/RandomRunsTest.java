@@ -1,6 +1,10 @@
 import java.util.Random;
 
-/** Runs of calls drawn from fixed seeds, each answer, STATUS and OUT held against the model's. */
+/**
+ * Runs of calls drawn from fixed seeds, each answer, STATUS and OUT held against the model's. OUT
+ * takes a call a byte, so these objects get more calls than the document answers for; the class
+ * has no such limit.
+ */
 public final class RandomRunsTest {
     private static int wrong = 0;
     private static final int[] EDGES = {
