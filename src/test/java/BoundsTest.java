@@ -258,6 +258,24 @@ public final class BoundsTest {
             patch(1, 6, 0) = 2
             patch(0, 5, 0) = 3
             """);
+        Run.of("over corners that are no patch's", """
+            corner(5, 0) = 0
+            corner(0, 0) = 1
+            corner(10, 0) = 2
+            corner(6, 0) = 3
+            corner(5, 5) = 4
+            corner(5, -5) = 5
+            patch(1, 2, 0) = 0
+            patch(0, 4, 0) refused 7
+            patch(3, 4, 2) refused 7
+            patch(5, 4, 1) refused 7
+            patch(1, 2, 1) refused 7
+            patch(2, 1, 1) refused 7
+            patch(1, 4, 1) = 1
+            patch(4, 2, 1) = 2
+            patch(1, 5, 1) = 3
+            patch(5, 2, 1) refused 5
+            """);
         Run.of("along one line", """
             corner(0, 0) = 0
             corner(3, 0) = 1
@@ -414,6 +432,7 @@ public final class BoundsTest {
                     "patch(4, 5, " + kind + ") = 2", "sight(0, 1) = " + third[2], "sight(1, 0) = " + third[2]);
             }
         }
+        sightNearCorners();
         Run.of("sight past what closes the room", room, """
             patch(1, 2, 0) = 2
             patch(3, 0, 0) = 3
@@ -459,6 +478,41 @@ public final class BoundsTest {
             patch(2, 3, 0) = 1
             patch(8, 9, 0) = 2
             patch(6, 7, 0) refused 7
+            sight(0, 1) = 2
+            patch(4, 5, 0) = 3
+            sight(0, 1) = 1
+            sight(1, 0) = 1
+            """);
+    }
+
+    /** A third PATCH by the corners of what a floor and a ceiling of 10 span; it comes first. */
+    private static void sightNearCorners() {
+        int[][] thirds = {
+            {-2, 9, 1, 12, 2}, {1, 12, -2, 9, 2}, {-20, 9, 3, 12, 2}, {-4, 12, 4, 4, 1}, {4, 4, -4, 12, 1},
+            {-8, 13, 0, 5, 2}, {-8, 13, 1, 5, 1}, {-4, 11, -1, 4, 2}, {-1, 11, 1, 9, 7}, {14, 13, 9, 8, 1},
+            {14, 12, 9, 7, 1}, {9, 12, 14, 7, 2}, {8, 11, 14, 5, 7}, {8, 12, 14, 6, 7}, {12, -2, 9, 3, 1}, {13, 2, 9, -2, 2},
+            {-1, -4, -1, 14, 2}, {0, 1, 0, 9, 2}, {-1, 1, 11, 9, 1}, {-1, 9, 11, 1, 1}, {-9, 5, 30, 6, 1},
+            {-3, 1, 1, 1, 1}, {9, 9, 10, 9, 1}, {10, 9, 11, 9, 2}, {10, 1, 10, 2, 2}, {-20, 8, -1, 9, 2},
+            {-40, 12, 1, 9, 1}, {1, 9, -40, 12, 1}, {-3, 14, 1, 1, 1}, {-1, 40, 1, -8, 7}, {11, -1, 12, 30, 2}
+        };
+        for (int[] t : thirds) {
+            String end = t[4] == 7 ? "refused 7" : "= 2";
+            String due = t[4] == 7 ? "2" : String.valueOf(t[4]);
+            String corners = "corner(0, 0) = 0\ncorner(10, 0) = 1\ncorner(10, 10) = 2\ncorner(0, 10) = 3\n"
+                + "corner(" + t[0] + ", " + t[1] + ") = 4\ncorner(" + t[2] + ", " + t[3] + ") = 5\n";
+            Run.of("sight past " + Arrays.toString(t), corners, "patch(0, 1, 0) = 0", "patch(2, 3, 0) = 1",
+                "patch(4, 5, 0) " + end, "sight(0, 1) = " + due, "sight(1, 0) = " + due);
+            if (t[4] != 7) {
+                Run.of("sight past a first " + Arrays.toString(t), corners, "patch(4, 5, 0) = 0", "patch(0, 1, 0) = 1",
+                    "patch(2, 3, 0) = 2", "sight(1, 2) = " + due, "sight(2, 1) = " + due);
+            }
+        }
+        pair("the least room", at(0, 0, 1, 0, 1, 2, 0, 2), """
+            sight(0, 1) = 2
+            corner(0, 1) = 4
+            corner(1, 1) = 5
+            corner(-1, 1) = 6
+            patch(6, 4, 0) = 2
             sight(0, 1) = 2
             patch(4, 5, 0) = 3
             sight(0, 1) = 1
@@ -561,7 +615,7 @@ public final class BoundsTest {
             share(1, 0, 20, false) = 349525
             share(1, 0, 20, true) = 349526
             """);
-        pair("a low share below 0 is 0", at(0, 0, 1, 0, 1, 999, 0, 999), """
+        pair("a far share", at(0, 0, 1, 0, 1, 999, 0, 999), """
             share(0, 1, 0, false) = 0
             share(0, 1, 0, true) = 1
             share(0, 1, 10, false) = 0
@@ -569,6 +623,29 @@ public final class BoundsTest {
             share(0, 1, 20, false) = 524
             share(0, 1, 20, true) = 525
             """);
+        shareBelowNone();
+        // Low: 20 by twice UP, 22, and not by twice DOWN, 20. High: 23 by 20.
+        pair("low by up of a", at(1, 8, 9, 1, 10, 1, 0, 9), "share(0, 1, 0, false) = 0", "share(0, 1, 0, true) = 2");
+        // High: 11 by twice DOWN, 10, which leaves 1, and not by twice UP, 12.
+        pair("high by down of a", at(5, 10, 0, 7, 0, 1, 8, 8), "share(0, 1, 0, false) = 0", "share(0, 1, 0, true) = 2");
+        pair("low and high by 2 and 8", at(3, 5, 5, 2, 11, 2, 8, 9), "share(0, 1, 1, false) = 0",
+            "share(0, 1, 1, true) = 2", "share(0, 1, 3, false) = 3", "share(0, 1, 3, true) = 5");
+        // 19 times 2 by 38, and 8 by 8: nothing is left to round.
+        pair("low just so", at(11, 0, 2, 3, 0, 3, 7, 1), "share(0, 1, 1, false) = 1", "share(0, 1, 1, true) = 2");
+        pair("high just so", at(7, 4, 3, 6, 2, 5, 6, 2), "share(0, 1, 0, false) = 0", "share(0, 1, 0, true) = 1");
+    }
+
+    /** DOWNS less UPS are from -3 to -1 here. */
+    private static void shareBelowNone() {
+        pair("a low share below 0 is 0", at(3, 4, 3, 3, 8, 7, 7, 11), """
+            share(0, 1, 0, false) = 0
+            share(0, 1, 0, true) = 1
+            share(0, 1, 1, false) = 0
+            share(0, 1, 1, true) = 1
+            """);
+        pair("a low share below 0 is 0, by 8", at(11, 3, 11, 4, 6, 6, 3, 7), "share(0, 1, 3, false) = 0");
+        pair("a low share below 0 is 0, by 2^20", at(0, 0, 1, 0, 926, 36, 925, 36), "share(0, 1, 20, false) = 0",
+            "share(1, 0, 20, false) = 0");
     }
 
     /** Each pair is by so many units of 2 to the power -20 crossed more than uncrossed. */
@@ -906,10 +983,8 @@ public final class BoundsTest {
         for (int k = 0; k < size; k++) {
             alike &= text.charAt(k) == model.out(k);
         }
-        if (!alike || room.out(size) != -1 || room.out(MOST_OUT) != -1) {
+        if (!alike || room.out(size) != -1 || room.out(2 * size) != -1) {
             Run.wrong("longest answers", "bounce told " + text + " of " + size + ", due are " + due);
         }
     }
-
-    private static final int MOST_OUT = 511;
 }

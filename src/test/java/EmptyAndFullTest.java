@@ -108,6 +108,7 @@ public final class EmptyAndFullTest {
         Run.of("a patch more, beside told ones", Rooms.FURNISHED, """
             patch(0, 2, 0) = 4
             light(4) tells 0/1
+            pull(4, 4) tells 1/1
             pull(4, 1) tells 0/1
             pull(0, 4) tells 0/1
             on(4, 1, 2) = true

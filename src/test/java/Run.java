@@ -248,7 +248,7 @@ final class Run {
 
     /** What is asked of twins, in parts that an object's calls are enough for. */
     private enum Probe {
-        FACTS, SIGHTS, STRINGS, MORE_WALLS, LIGHTS, LAMPS, TABLE, PARTS;
+        FACTS, SIGHTS, STRINGS, MORE_WALLS, MORE_LAMPS, LIGHTS, LAMPS, TABLE, PARTS_LEFT, LAST_PARTS_LEFT;
 
         void ask(Twins twins) {
             twins.askOut();
@@ -258,10 +258,12 @@ final class Run {
                 case SIGHTS -> askSights(twins, patches);
                 case STRINGS -> askStrings(twins, patches);
                 case MORE_WALLS -> askMoreWalls(twins);
+                case MORE_LAMPS -> askMoreLamps(twins);
                 case LIGHTS -> askLights(twins, patches);
                 case LAMPS -> askLamps(twins, patches);
                 case TABLE -> askTable(twins, patches);
-                default -> askParts(twins, patches);
+                case PARTS_LEFT -> askPartsLeft(twins, patches, 0);
+                default -> askPartsLeft(twins, patches, patches - 1);
             }
         }
 
@@ -303,6 +305,15 @@ final class Run {
             twins.ask("corner", 777, -779);
         }
 
+        /** Far from all that the runs have, so that nothing but their number can refuse them. */
+        private static void askMoreLamps(Twins twins) {
+            for (int x = 900; x < 904; x++) {
+                long from = twins.ask("corner", x, -900);
+                long to = twins.ask("corner", x, -901);
+                twins.ask("patch", from, to, 1);
+            }
+        }
+
         private static void askLights(Twins twins, int patches) {
             for (int p = 0; p <= patches; p++) {
                 twins.ask("light", p);
@@ -338,15 +349,16 @@ final class Run {
             }
         }
 
-        /** How much room a row has left tells of a GAP's row too, and of the number of PARTS. */
-        private static void askParts(Twins twins, int patches) {
+        /**
+         * How much room a row has for one place tells of all its other places, of a GAP's row too,
+         * and of the number of PARTS.
+         */
+        private static void askPartsLeft(Twins twins, int patches, int place) {
             for (int i = 0; i < patches; i++) {
-                for (int part = 512; part > 0; part /= 2) {
-                    twins.ask("table", i, 0, part);
+                int fits = 0;
+                for (int more = 512; more > 0; more /= 2) {
+                    fits += twins.ask("table", i, place, fits + more) == 1 ? more : 0;
                 }
-                twins.ask("table", i, 0, 1000);
-                twins.ask("table", i, patches - 1, 100);
-                twins.ask("table", i, patches - 1, 1);
             }
         }
     }
