@@ -30,6 +30,7 @@ public final class BoundsTest {
         tableSums();
         bounceNumbers();
         enoughNumbers();
+        enoughOfNothing();
         wantNumbers();
         priceNumbers();
         leastNumbers();
@@ -507,6 +508,32 @@ public final class BoundsTest {
                     "patch(2, 3, 0) = 2", "sight(1, 2) = " + due, "sight(2, 1) = " + due);
             }
         }
+        // A third one that only touches a corner of a span so small that nothing is far from its edges.
+        Run.of("past the corner of a small span", """
+            corner(1, 2) = 0
+            corner(2, 2) = 1
+            corner(1, 3) = 2
+            corner(2, 1) = 3
+            corner(0, 0) = 4
+            patch(4, 2, 0) = 0
+            patch(0, 3, 0) = 1
+            patch(1, 0, 0) = 2
+            sight(2, 1) = 2
+            sight(1, 2) = 2
+            """);
+        Run.of("past another corner of a small span", """
+            corner(1, 0) = 0
+            corner(2, 2) = 1
+            corner(0, 2) = 2
+            corner(1, 2) = 3
+            corner(1, 1) = 4
+            corner(0, 1) = 5
+            patch(0, 1, 0) = 0
+            patch(5, 4, 0) = 1
+            patch(4, 2, 0) = 2
+            sight(1, 2) = 2
+            sight(2, 1) = 2
+            """);
         pair("the least room", at(0, 0, 1, 0, 1, 2, 0, 2), """
             sight(0, 1) = 2
             corner(0, 1) = 4
@@ -793,6 +820,36 @@ public final class BoundsTest {
             enough(0) = 8
             own(0, 999) = true
             enough(0) = 9
+            """);
+    }
+
+    /** The LAMP would light the PLAIN one and itself a hundredfold, if it had light of its own. */
+    private static void enoughOfNothing() {
+        Run.of("enough of nothing", """
+            corner(0, 0) = 0
+            corner(0, 1) = 1
+            corner(1, 0) = 2
+            corner(1, 1) = 3
+            corner(2, 0) = 4
+            corner(2, 1) = 5
+            patch(0, 1, 1) = 0
+            patch(2, 3, 0) = 1
+            patch(4, 5, 0) = 2
+            parts(1000) = true
+            on(0, 99, 100) = true
+            on(1, 99, 100) = true
+            table(0, 0, 1000) = true
+            table(1, 0, 1000) = true
+            pull(0, 0) tells 100/1
+            pull(1, 0) tells 99/1
+            want(0, 1) = true
+            want(1, 1) = true
+            enough(0) = 9
+            enough(1) = 9
+            enough(2) = 0
+            own(0, 1) = true
+            enough(0) = 0
+            enough(1) = 2
             """);
     }
 
