@@ -25,6 +25,7 @@ public final class BoundsTest {
         shareNumbers();
         shareRounding();
         crossedDifferences();
+        crossedByDowns();
         partsNumbers();
         tableNumbers();
         tableSums();
@@ -697,6 +698,24 @@ public final class BoundsTest {
             status() = 1
             crossed(1, 1) refused 1
             """);
+    }
+
+    /** DOWNS that differ by 4 or 5, where the other one is what UPS or the true lengths differ by. */
+    private static void crossedByDowns() {
+        int[][] pairs = {
+            {614, 35, 613, 35, 1},    // 5, and UPS 4
+            {685, 37, 684, 37, 0},    // 4, and UPS 6
+            {613, 35, 614, 35, -1},   // -5, and UPS -4
+            {684, 37, 685, 37, 0},    // -4, and UPS -6
+            {322, 10, 321, 10, 1},    // 5, and in truth less than 3.2
+            {144, 4, 143, 4, 0},      // 4, and in truth more than 5.7
+            {321, 10, 322, 10, -1},   // -5, and in truth more than -3.2
+            {143, 4, 144, 4, 0}       // -4, and in truth less than -5.7
+        };
+        for (int[] b : pairs) {
+            pair("crossed by downs, " + b[0], at(0, 0, 1, 0, b[0], b[1], b[2], b[3]), "crossed(0, 1) = " + b[4],
+                "crossed(1, 0) = " + b[4]);
+        }
     }
 
     // ---- light
