@@ -278,6 +278,43 @@ public final class BoundsTest {
             patch(1, 5, 1) = 3
             patch(5, 2, 1) refused 5
             """);
+        Run.of("the least that can be met", """
+            corner(0, 0) = 0
+            corner(1, 1) = 1
+            corner(1, 0) = 2
+            corner(0, 1) = 3
+            corner(2, 2) = 4
+            corner(2, 0) = 5
+            corner(1, -1) = 6
+            patch(0, 1, 0) = 0
+            patch(2, 3, 0) refused 7
+            patch(3, 2, 0) refused 7
+            patch(6, 1, 0) = 1
+            patch(2, 5, 0) refused 7
+            patch(0, 2, 0) refused 7
+            patch(2, 1, 0) refused 7
+            patch(1, 4, 0) = 2
+            patch(4, 5, 0) = 3
+            patch(0, 3, 0) = 4
+            """);
+        Run.of("the middle of the least patches", """
+            corner(0, 0) = 0
+            corner(2, 0) = 1
+            corner(1, 0) = 2
+            corner(1, 5) = 3
+            corner(7, 0) = 4
+            corner(7, 2) = 5
+            corner(7, 1) = 6
+            corner(9, 5) = 7
+            patch(0, 1, 0) = 0
+            patch(2, 3, 0) refused 7
+            patch(3, 2, 0) refused 7
+            patch(4, 5, 0) = 1
+            patch(6, 7, 0) refused 7
+            patch(7, 6, 0) refused 7
+            patch(5, 7, 0) = 2
+            patch(1, 4, 0) = 3
+            """);
         Run.of("along one line", """
             corner(0, 0) = 0
             corner(3, 0) = 1
@@ -535,6 +572,34 @@ public final class BoundsTest {
             sight(1, 2) = 2
             sight(2, 1) = 2
             """);
+        // The lines of all four edges are met by the third one, and yet it goes by below.
+        Run.of("past a small span", """
+            corner(3, 4) = 0
+            corner(2, 5) = 1
+            corner(2, 4) = 2
+            corner(3, 3) = 3
+            corner(0, 2) = 4
+            corner(4, 3) = 5
+            patch(0, 1, 0) = 0
+            patch(2, 3, 0) = 1
+            patch(4, 5, 0) = 2
+            sight(0, 1) = 2
+            sight(1, 0) = 2
+            """);
+        // It begins at a corner of the span and ends inside, the least way from an edge.
+        Run.of("into a small span", """
+            corner(1, 0) = 0
+            corner(3, 0) = 1
+            corner(1, 3) = 2
+            corner(1, 2) = 3
+            corner(2, 1) = 4
+            patch(0, 1, 0) = 0
+            patch(2, 3, 0) = 1
+            sight(0, 1) = 2
+            patch(0, 4, 0) = 2
+            sight(0, 1) = 1
+            sight(1, 0) = 1
+            """);
         pair("the least room", at(0, 0, 1, 0, 1, 2, 0, 2), """
             sight(0, 1) = 2
             corner(0, 1) = 4
@@ -658,6 +723,10 @@ public final class BoundsTest {
         pair("high by down of a", at(5, 10, 0, 7, 0, 1, 8, 8), "share(0, 1, 0, false) = 0", "share(0, 1, 0, true) = 2");
         pair("low and high by 2 and 8", at(3, 5, 5, 2, 11, 2, 8, 9), "share(0, 1, 1, false) = 0",
             "share(0, 1, 1, true) = 2", "share(0, 1, 3, false) = 3", "share(0, 1, 3, true) = 5");
+        // With any one of the lengths rounded to its other side, both answers would be other ones.
+        pair("each length to its side", at(6, 7, 4, 6, 1, 3, 12, 4), "share(0, 1, 2, false) = 2", "share(0, 1, 2, true) = 5");
+        pair("each length to its side, by 16", at(4, 6, 3, 8, 0, 10, 5, 2), "share(0, 1, 4, false) = 14",
+            "share(0, 1, 4, true) = 17");
         // 19 times 2 by 38, and 8 by 8: nothing is left to round.
         pair("low just so", at(11, 0, 2, 3, 0, 3, 7, 1), "share(0, 1, 1, false) = 1", "share(0, 1, 1, true) = 2");
         pair("high just so", at(7, 4, 3, 6, 2, 5, 6, 2), "share(0, 1, 0, false) = 0", "share(0, 1, 0, true) = 1");

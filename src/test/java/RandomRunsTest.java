@@ -43,6 +43,9 @@ public final class RandomRunsTest {
         for (int seed = 0; seed < 600; seed++) {
             new RandomRunsTest(seed, 1000).round();
         }
+        for (int seed = 0; seed < 400; seed++) {
+            new RandomRunsTest(seed, 1000).noughts();
+        }
         System.out.println(wrong == 0 ? "all random runs agree" : wrong + " answers differ");
         if (wrong != 0) {
             System.exit(1);
@@ -186,6 +189,55 @@ public final class RandomRunsTest {
             same("least", room.least(), model.least());
             same("power " + j, room.power(j), model.power(j));
         }
+    }
+
+    /** Powers of ten and their neighbours, so that long numbers have rows of noughts and nines. */
+    private void noughts() {
+        int[] kinds = new int[from(2, 6)];
+        for (int p = 0; p < kinds.length; p++) {
+            kinds[p] = p < 3 ? below(3) : 2 * below(2);
+        }
+        layPatches(kinds);
+        int parts = tens(3);
+        same("parts " + parts, room.parts(parts), model.parts(parts));
+        for (int i = 0; i < 4 * made; i++) {
+            int p = below(made);
+            int d = tens(2);
+            int n = below(3) == 0 ? d - 1 : Math.min(1, d - 1);
+            int j = below(made);
+            int part = nearTens(3);
+            int light = nearTens(4);
+            same("on " + p + " " + n + " " + d, room.on(p, n, d), model.on(p, n, d));
+            same("table " + p + " " + j + " " + part, room.table(p, j, part), model.table(p, j, part));
+            same("own " + p + " " + light, room.own(p, light), model.own(p, light));
+            same("want " + j + " " + light, room.want(j, light), model.want(j, light));
+        }
+        for (int i = 0; i < 2 * made; i++) {
+            call(11 + below(4));
+            leastForTens();
+        }
+    }
+
+    private void leastForTens() {
+        int p = below(made);
+        int light = nearTens(5);
+        int price = nearTens(2);
+        same("want " + p + " " + light, room.want(p, light), model.want(p, light));
+        same("price " + p + " " + price, room.price(p, price, 10000), model.price(p, price, 10000));
+        same("least", room.least(), model.least());
+        same("power " + p, room.power(p), model.power(p));
+    }
+
+    private int tens(int mostNoughts) {
+        int ten = 1;
+        for (int i = below(mostNoughts + 1); i > 0; i--) {
+            ten *= 10;
+        }
+        return ten;
+    }
+
+    private int nearTens(int mostNoughts) {
+        return Math.max(0, tens(mostNoughts) - (below(3) == 0 ? 1 : 0));
     }
 
     private void anything(int many) {

@@ -5,7 +5,6 @@ import java.lang.reflect.Modifier;
 import java.nio.charset.StandardCharsets;
 import java.nio.file.Files;
 import java.nio.file.Path;
-import java.util.List;
 import java.util.Set;
 import java.util.TreeSet;
 import java.util.regex.Matcher;
@@ -13,20 +12,15 @@ import java.util.regex.Pattern;
 
 /** The public face of the document, and those rules of the language that can be looked up. */
 public final class RulesTest {
-    private static final Set<String> FACE = new TreeSet<>(List.of(
-        "int status()", "int out(int)", "int corner(int,int)", "int patch(int,int,int)",
-        "boolean on(int,int,int)", "boolean own(int,int)", "int told(int,int)", "int sight(int,int)",
-        "long length(int,int,boolean)", "int share(int,int,int,boolean)", "int crossed(int,int)",
-        "boolean parts(int)", "boolean table(int,int,int)", "int light(int)", "int bounce(int,int)",
-        "int pull(int,int)", "int enough(int)", "boolean want(int,int)", "boolean price(int,int,int)",
-        "int least()", "int power(int)"));
+    private static final Pattern FACE_BLOCK = Pattern.compile("(?s)```java\n(.*?)```");
+    private static final Pattern FACE_METHOD = Pattern.compile("public (\\w+ \\w+\\([^)]*\\));");
     private static final Pattern RULED_OUT = Pattern.compile(
         "\\b(throw|throws|try|catch|synchronized|assert|import|package|Object|hashCode|toString|NaN|var|volatile|native"
             + "|protected|[a-z]+Exact)\\b|->|::|\\bSystem\\.(?!arraycopy)|\\bdouble\\b|\\bfloat\\b|@");
     private static int wrong = 0;
 
     public static void main(String[] args) throws Exception {
-        face();
+        face(documentFace(Files.readString(Path.of("../shared/DOC.md"), StandardCharsets.UTF_8)));
         classes();
         source(Files.readString(Path.of("src/main/java/LightRoom.java"), StandardCharsets.UTF_8));
         System.out.println(wrong == 0 ? "all rules are kept" : wrong + " rules are broken");
@@ -42,7 +36,20 @@ public final class RulesTest {
         }
     }
 
-    private static void face() throws Exception {
+    /** The methods that the document shows, each as "int corner(int,int)". */
+    private static Set<String> documentFace(String document) {
+        Set<String> face = new TreeSet<>();
+        Matcher block = FACE_BLOCK.matcher(document);
+        holds("the document shows a face", block.find());
+        Matcher method = FACE_METHOD.matcher(block.group(1));
+        while (method.find()) {
+            face.add(method.group(1).replaceAll(" \\w+([,)])", "$1").replace(", ", ","));
+        }
+        holds("21 methods of the face: " + face, face.size() == 21);
+        return face;
+    }
+
+    private static void face(Set<String> due) throws Exception {
         int modifiers = LightRoom.class.getModifiers();
         holds("public and final", Modifier.isPublic(modifiers) && Modifier.isFinal(modifiers));
         Set<String> methods = new TreeSet<>();
@@ -54,7 +61,7 @@ public final class RulesTest {
                 holds(method.getName() + " is public alone", method.getModifiers() == Modifier.PUBLIC);
             }
         }
-        holds("the methods of the face: " + methods, methods.equals(FACE));
+        holds("the methods of the face: " + methods + ", due are " + due, methods.equals(due));
         for (Method method : LightRoom.class.getDeclaredMethods()) {
             holds("no private " + method.getName(), !Modifier.isPrivate(method.getModifiers()) || !names.contains(method.getName()));
         }

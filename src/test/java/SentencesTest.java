@@ -142,6 +142,7 @@ public final class SentencesTest {
         says("Two PATCHES have no point in common that isn't a CORNER of both.");
         shownBy(PromisesTest.class, "patchesThatMeet");
         shownBy(BoundsTest.class, "patchesNearOthers");
+        meetingOfEveryKind();
         says("KINDS: 0 PLAIN, 1 LAMP, 2 GAP.");
         shownBy(BoundsTest.class, "patchKinds");
         kindsApart();
@@ -159,6 +160,18 @@ public final class SentencesTest {
             the left hand; ON the line it is neither.
             """);
         shownBy(BoundsTest.class, "sightLines");
+    }
+
+    /** A PATCH of any KIND may not meet one of any KIND, the first, the last or one between. */
+    private static void meetingOfEveryKind() {
+        for (int kind = 0; kind <= 2; kind++) {
+            for (int other = 0; other <= 2; other++) {
+                Run.of("kind " + other + " that meets kind " + kind, Rooms.ALL_CORNERS,
+                    "patch(0, 2, " + kind + ") = 0\npatch(4, 7, " + kind + ") = 1\npatch(10, 12, 0) = 2",
+                    "patch(5, 6, " + other + ") refused 7\npatch(6, 5, " + other + ") refused 7",
+                    "patch(2, 0, " + other + ") refused 7\npatch(1, 3, " + other + ") = 3");
+            }
+        }
     }
 
     /** A PLAIN one has no OWN, a GAP gives nothing on, and of LAMPS alone there is a PRICE to tell. */
@@ -239,12 +252,14 @@ public final class SentencesTest {
             B to C.
             """);
         shownBy(PromisesTest.class, "crossed", "share");
+        stringsOfEveryKind();
         says("""
             The LENGTH of a string or PATCH, by 2 to the power k (0 to 20): DOWN is the greatest whole
             number of which the square is not above 4 to the power k times the square of the true length,
             UP that itself, if its square is just that, else 1 more.
             """);
         shownBy(BoundsTest.class, "lengthNumbers");
+        lengthByEveryPower();
         says("""
             SHARE of a to b, SIGHT being 2, by 2 to the power k: LOW: both DOWNS of the crossed ones less
             both UPS of the uncrossed ones (0 if below), times 2 to the power k, by twice UP of a, rounded
@@ -252,6 +267,46 @@ public final class SentencesTest {
             times 2 to the power k, by twice DOWN of a, rounded up.
             """);
         shownBy(BoundsTest.class, "shareNumbers", "shareRounding", "shareBelowNone");
+        shareByEveryPower();
+    }
+
+    /** Opposite sides of the square by its diagonals, its neighbours by one of them. */
+    private static void stringsOfEveryKind() {
+        for (int a = 0; a < 4; a++) {
+            StringBuilder lines = new StringBuilder();
+            for (int b = 0; b < 4; b++) {
+                if (a != b) {
+                    int low = (a + b) % 2 == 0 ? 424 : 299;
+                    lines.append("sight(" + a + ", " + b + ") = 2\ncrossed(" + a + ", " + b + ") = 1\n");
+                    lines.append("share(" + a + ", " + b + ", 10, false) = " + low + "\n");
+                    lines.append("share(" + a + ", " + b + ", 10, true) = " + (low + 1) + "\n");
+                }
+            }
+            Run.of("strings of patch " + a, Rooms.SQUARE, lines.toString());
+        }
+    }
+
+    private static void lengthByEveryPower() {
+        int[] rootsOfTwo = {1, 2, 5, 11, 22, 45, 90, 181, 362, 724, 1448, 2896, 5792, 11585, 23170, 46340, 92681,
+            185363, 370727, 741455, 1482910};
+        StringBuilder lines = new StringBuilder("corner(3, 3) = 0\ncorner(4, 2) = 1\npatch(0, 1, 0) = 0\n");
+        for (int k = 0; k <= 20; k++) {
+            lines.append("length(0, " + k + ", false) = " + rootsOfTwo[k] + "\n");
+            lines.append("length(0, " + k + ", true) = " + (rootsOfTwo[k] + 1) + "\n");
+        }
+        Run.of("length by every power", lines.toString());
+    }
+
+    /** In the triangle of 3, 4 and 5 the SHARE of the shorter side to the longer one is a third. */
+    private static void shareByEveryPower() {
+        StringBuilder lines = new StringBuilder("corner(0, 0) = 0\ncorner(4, 0) = 1\ncorner(4, 3) = 2\n");
+        lines.append("patch(0, 1, 0) = 0\npatch(1, 2, 0) = 1\n");
+        for (int k = 0; k <= 20; k++) {
+            int third = (1 << k) / 3;
+            lines.append("share(1, 0, " + k + ", false) = " + third + "\n");
+            lines.append("share(1, 0, " + k + ", true) = " + (third + 1) + "\n");
+        }
+        Run.of("share by every power", lines.toString());
     }
 
     // ---- Terms: ==== 3.
